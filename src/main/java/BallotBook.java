@@ -1376,6 +1376,10 @@ public final class BallotBook {
 
         /** Which station serves this hour, or NONE. */
         int choose(Rule rule) {
+            if (rule == null) {
+                int servers = serverBits();
+                return servers == 0 ? NONE : Integer.numberOfTrailingZeros(servers);
+            }
             // the sums over all stations are the same for each of them, so they are made once
             crowd = sumOf(WAITING);
             left = sumOf(STOCK);
@@ -1383,7 +1387,7 @@ public final class BallotBook {
             long greatest = 0;
             for (int s = 0; s < stations; s++) {
                 if (canServe(s)) {
-                    long worth = rule == null ? 1 : rule.worth(this, s);
+                    long worth = rule.worth(this, s);
                     if (worth > greatest) {
                         greatest = worth;
                         best = s;
