@@ -223,6 +223,7 @@ public final class PromiseTests {
         due("voters", election(b, "papers 2;station 0 0;voters 0 61"), fault(30, 1));
         due("spoiled", election(b, "papers 2;spoiled 0"), fault(17, 1));
         due("spoiled beyond", election(b, "papers 2;station 0 0;spoiled 1"), fault(29, 1));
+        due("spoiled beyond", election(b, "papers 2;station 0 1;spoiled 2"), fault(29, 1));
         due("word goes on", election(b, "paperss 2"), fault(0, 0));
         due("the end", election(b, "papers 2;"), fault(9, 0));
         due("one number more", election(b, "papers 2 1"), fault(9, 0));
@@ -319,6 +320,12 @@ public final class PromiseTests {
         for (String sum : high) {
             due(sum, servesFirst(sum) ? 1 : 0, 1);
         }
+        StringBuilder deep = new StringBuilder("50 if ");
+        for (int i = 0; i < 10; i++) {
+            deep.append(i < 7 ? "1=2 or 1=1 and[" : "1=2 or[");
+        }
+        due("deep", servesFirst(deep + "1=1]]]]]]]]]]") ? 1 : 0, 1);
+        due("deep", servesFirst(deep + "1=2]]]]]]]]]]") ? 1 : 0, 0);
         String[] low = {"49", "0-100", "60-5-6", "50/3*3", "1 if 1=1; serve 99", "stock+40", "waiting*16+1",
             "spoiled*49", "runs*24", "crowd*7", "left*3+4", "50 if [1=1 or 1=2] and 1=2", "50 if not [1=1 or 1=2]",
             "50 if not 1=1", "(1)", "50 if 2<1 or 2<=1 or 2=1 or 1>=2 or 1>2", "0-7/2-100"};
@@ -795,6 +802,20 @@ public final class PromiseTests {
         due("four", f.slips(0), 4);
         due("of moved", f.slips(2), 2);
         due("tens", f.slips(1), 0);
+        BallotBook five = book("papers 50;station 0 9;station 10 19;station 20 29;station 30 39;station 40 49");
+        for (int s = 0; s < 5; s++) {
+            tellAll(five, s, s == 4 ? 1 : 10, 0, 0);
+        }
+        due("two", five.slips(0), 2);
+        due("ten more", five.slips(7), 101);
+        due("no sixth", five.slips(8), -3);
+        five.lend(4, 0, 2);
+        due("0 tells 2 less, 4 7 less", five.balance(0) * 10000 + five.balance(4), 10021007);
+        due("a ten, two of moved, a one", five.slips(0), 4);
+        due("of moved", five.slips(2), 2);
+        promise = 25;
+        due("4 must", five.must(), 16);
+        promise = 24;
     }
 
     private static void mustAndFree() {
@@ -918,6 +939,7 @@ public final class PromiseTests {
         due("one too late", dry.dry(0), -2);
         dry.hour();
         due("from now on", dry.dry(0), 200);
+        due("empty, but nobody waits", book("papers 9;station 0 0;spoiled 0").dry(0), -2);
     }
 
     private static void mores() {
@@ -938,6 +960,10 @@ public final class PromiseTests {
         due("nothing changes", b.station(0, 0), 10);
         BallotBook alike = book("papers 30;station 0 4;station 5 5;station 7 7;voters 1 4;voters 2 4");
         due("alike: the least", alike.more(0, 60, 0), 1);
+        // 0 gets 15 to 19 and puts 0 15 16 18 19 into its box
+        BallotBook five = book("papers 30;station 0 0;station 10 19;voters 0 9");
+        due("to the first one", five.more(1, 60, 0), 0);
+        due("just five", five.more(1, 60, 1), 4);
         BallotBook few = book("papers 30;station 0 1;station 5 5;voters 1 4");
         due("all it has", few.more(0, 60, 0), 1);
         due("how many", few.more(0, 60, 1), 1);
@@ -989,6 +1015,18 @@ public final class PromiseTests {
         due("nothing changes", b.station(0, 3), 3);
         BallotBook none = book("papers 9;station 0 3;station 4 8");
         due("nobody waits: all", none.rests(0, 1, 5, 0), 16);
+        // each would have all wait at the other one; 1 has but two to send
+        BallotBook one = book(THREE);
+        due("two", one.rests(0, 1, 1, 0), 2);
+        due("first", one.rests(0, 1, 1, 1), 3);
+        due("second", one.rests(0, 1, 1, 2), 2);
+        // 0 would send as many as come, 1 some others
+        BallotBook chase = book("papers 30;station 0 0;station 7 8;voters 0 2;voters 1 2");
+        rule(chase, "serve waiting");
+        chase.force(0);
+        due("no rest", chase.rests(0, 1, 1, 0), 0);
+        due("no rest", chase.rests(0, 1, 1, 1), -2);
+        due("no rest", chase.rests(0, 1, 1, 2), -2);
         due("first", none.rests(0, 1, 5, 1), 0);
     }
 
@@ -1097,6 +1135,17 @@ public final class PromiseTests {
         // all serve 0 first? rule 1 serves 2 of worth 7: behind hour 1 box of 0: 1 1 0, of 1: 1 1 0, of 2: 0 0 2
         due("alike: the least", second.look(1, 0), 0);
         due("two alike", second.look(1, 1), 2);
+        BallotBook six = book("papers 50;station 0 9;station 10 19;station 20 29;station 30 39;station 40 49;"
+                + "voters 0 9;voters 1 9;voters 2 9;voters 3 9;voters 4 9");
+        for (int i = 0; i < 6; i++) {
+            rule(six, i < 3 ? "serve 1 if station = 4" : "serve 1 if station = 1");
+        }
+        // 4 serves by three of seven, 1 by three others, 0 by none
+        due("all of them", six.look(0, 1), 4);
+        due("1 ahead of 4", six.look(0, 0), 1);
+        six.note(0, 1, 0);
+        due("0 and 4 part them alike", six.look(3, 0), 0);
+        due("three alike", six.look(3, 1), 3);
     }
 
     private static void draws() {
@@ -1199,5 +1248,14 @@ public final class PromiseTests {
         due("again", b.back(3), 5);
         due("another image", b.image(0), 5);
         due("in place of the first", b.back(0), 5);
+        for (int i = 1; i < 10; i++) {
+            b.note(1, 0, i < 9 ? 2 : 3);
+        }
+        b.image(1);
+        b.note(NONE, 0, 0);
+        due("all notes hold", b.ruled(0), 3);
+        b.back(1);
+        due("ten notes", b.count(10), 10);
+        due("the tenth does not", b.ruled(0), 0);
     }
 }
