@@ -21,6 +21,8 @@ public final class BallotBook {
     private static final int WAY_MOST = 12;
     private static final int TENS_MOST = 3;
     private static final int SENT_CHOICES = 4;
+    private static final int X_MOST = 2147483647;
+    private static final int ANY_NUMBER = 2147483647;
 
     private static final int STOCK = 0;
     private static final int BOX = 1;
@@ -671,7 +673,7 @@ public final class BallotBook {
                 search.gaps[s] = sheet.gapOf(s);
             }
         }
-        return search.run(stations, fixed, Integer.MAX_VALUE);
+        return search.run(stations, fixed, ANY_NUMBER);
     }
 
     /** Asked behind a search: a station must slip if barring its slips leaves no way of so few. */
@@ -1436,7 +1438,7 @@ public final class BallotBook {
         }
 
         private static int nextDrawn(int x) {
-            return (x * 1103515245 + 12345) & Integer.MAX_VALUE;
+            return (x * 1103515245 + 12345) & X_MOST;
         }
 
         static int greatest(long numbers) {

@@ -157,6 +157,17 @@ final class ActSentences {
         c.due("0 1 2", c.book.hour(), 2);
     }
 
+    @Sentence(promise = 13, text = "of the STATIONS that CAN serve that one does for which the SUM")
+    static void p13FiveStations(Case c) {
+        c.begin("papers 6;station 0 0;station 1 1;station 2 2;station 4 4;station 5 5;"
+                + "voters 0 1;voters 1 1;voters 2 1;voters 3 1;voters 4 1");
+        c.enforce("serve station");
+        int[] want = {4, 3, 2, 1, -2};
+        for (int hour = 0; hour < want.length; hour++) {
+            c.due("hour " + hour, c.book.hour(), want[hour]);
+        }
+    }
+
     @Sentence(promise = 13, text = "first CLAUSE without a TEST, or whose TEST holds (0 without)")
     static void p13FirstClause(Case c) {
         c.begin(THREE_ALIKE);

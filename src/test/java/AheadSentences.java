@@ -174,6 +174,23 @@ final class AheadSentences {
         c.due("nothing changes", b.station(1, 0), 10);
     }
 
+    @Sentence(promise = 31, text = "5 of the greatest numbers of the STOCK of a STATION")
+    static void p31NotTheLeast(Case c) {
+        // of 16 to 20 one is spoiled, 17; of 11 to 15 none would be
+        BallotBook b = c.begin("papers 30;station 0 0;station 11 20;voters 0 9");
+        c.due("which", b.more(1, 60, 0), 0);
+        c.due("how many", b.more(1, 60, 1), 4);
+    }
+
+    @Sentence(promise = 31, text = "the STATION that had best have 5 of the greatest numbers")
+    static void p31OfFiveStations(Case c) {
+        BallotBook b = c.begin("papers 60;station 0 0;station 1 1;station 2 2;station 10 19;station 3 3;voters 4 5");
+        // 4 has 3 15 16 17 18 19 then, of which 3 and 17 are spoiled
+        c.due("the last one", b.more(3, 60, 0), 4);
+        c.due("how many", b.more(3, 60, 1), 1);
+        c.due("its own", b.more(4, 60, 0), NONE);
+    }
+
     @Sentence(promise = 31, text = "(all, if it has not so many; not counted as MOVED)")
     static void p31AllItHas(Case c) {
         BallotBook b = c.begin("papers 30;station 0 1;station 5 5;voters 1 4");
@@ -329,6 +346,17 @@ final class AheadSentences {
         c.due("two are sent, whatever 1 says", b.rests(0, 1, 20, 0), 4);
         c.due("first", b.rests(0, 1, 20, 1), 2);
         c.due("second", b.rests(0, 1, 20, 2), 0);
+    }
+
+    @Sentence(promise = 33, text = "how many more are in its BOX then than now, twice, less how many WAIT there then")
+    static void p33Twice(Case c) {
+        // 0 serves one and has two waiting, which is 0, or sends all three, which is 0, too; 1 or 2 sent are less
+        BallotBook b = c.begin("papers 9;station 0 2;station 4 6;voters 0 3");
+        c.enforce("serve 1 if station = 0 and waiting >= 3");
+        c.due("0 or 3, and whatever 1 says", b.rests(0, 1, 1, 0), 8);
+        c.due("first", b.rests(0, 1, 1, 1), 0);
+        c.due("the other way round", b.rests(1, 0, 1, 0), 8);
+        c.due("second", b.rests(1, 0, 1, 2), 0);
     }
 
     @Sentence(promise = 33, text = "twos of which neither would have more by another number: how many; the first (by the first one, then the "

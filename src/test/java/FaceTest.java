@@ -88,6 +88,10 @@ public final class FaceTest {
         while (system.find()) {
             need(system.group(1).equals("arraycopy"), "System." + system.group(1));
         }
+        Matcher statics = Pattern.compile("\\b(Integer|Long|Math)\\.(\\w+)(\\(?)").matcher(bare);
+        while (statics.find()) {
+            need(statics.group(3).equals("("), "no function: " + statics.group());
+        }
         need(text.chars().allMatch(c -> c == '\n' || c >= 32 && c < 127), "the source has another sign");
     }
 }

@@ -545,5 +545,40 @@ final class NoteSentences {
         c.due("printed", b.count(0), 20);
         c.due("box", b.station(0, 1), 2);
         c.due("a station of the image", b.station(2, 0), 3);
+        c.due("numbers it was told to have", b.station(1, 4), 5);
+        b.recount(1);
+        c.due("balance", b.balance(1), 1000);
+    }
+
+    @Sentence(promise = 42, text = "All is as in an IMAGE: HOUR")
+    static void p42NotesAndBegin(Case c) {
+        BallotBook b = c.begin(Case.THREE);
+        b.note(4, 1, 1);
+        b.image(1);
+        c.goodElection("papers 5;station 0 4", 1);
+        b.note(0, 0, 0);
+        b.note(1, 0, 0);
+        b.back(1);
+        c.due("notes", b.count(10), 1);
+        c.due("from the begin of the image on", b.ruled(0), 1);
+        b.note(0, 0, 0);
+        c.due("0 has one behind hour 0", b.ruled(0), 0);
+    }
+
+    @Sentence(promise = 42, text = "gone back to, it is as it was")
+    static void p42RowsGoOn(Case c) {
+        BallotBook b = c.begin(Case.THREE);
+        c.hours(4);
+        b.spoil(9);
+        b.find(9);
+        b.image(0);
+        c.goodElection("papers 3;station 0 2", 1);
+        b.back(0);
+        b.spoil(5);
+        b.find(5);
+        b.hour();
+        c.dueRow(0, 1, 0, 1, 2, 4, 9, 5);
+        c.dueRow(1, 1, 11);
+        c.dueRow(1, 2, 12, 10);
     }
 }

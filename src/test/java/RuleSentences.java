@@ -213,6 +213,11 @@ final class RuleSentences {
         c.badRule("serve ^stations", 0);
         c.badRule("serve ^statio", 0);
         c.badRule("serve ^hourif 1 = 1", 0);
+        c.badRule("serve ^hourz", 0);
+        c.badRule("serve ^houra", 0);
+        c.badRule("serve hour^{", 0);
+        c.badRule("serve hour^`", 0);
+        c.badRule("serve 1 if 1 = 1 ^orz 1 = 1", 0);
         c.badRule("serve ^Hour", 0);
         c.badRule("serve ^serve", 0);
         c.badRule("serve ^not", 0);
@@ -339,6 +344,19 @@ final class RuleSentences {
     }
 
     @Sentence(promise = 5, text = "[ and not lie within one another 10 deep at most")
+    static void p05DeepAndLong(Case c) {
+        // nine brackets, behind each of which a fact waits for "or" and one for "and", and a sum: 60 in all
+        String deep = "serve 1 if " + "1=2or 1=1and[".repeat(9) + "7=1+2*3" + "]".repeat(9);
+        c.badRule(deep + " and ^1=1", 3);
+        c.begin("papers 9;station 0 2;voters 0 1");
+        c.enforce(deep);
+        c.due("it holds", c.book.hour(), 0);
+        c.book.undo();
+        c.enforce("serve 1 if " + "1=2or 1=1and[".repeat(9) + "8=1+2*3" + "]".repeat(9));
+        c.due("it does not", c.book.hour(), -2);
+    }
+
+    @Sentence(promise = 5, text = "[ and not lie within one another 10 deep at most")
     static void p05BesideOneAnotherIsNotDeep(Case c) {
         c.goodRule("serve 1 if " + "[1=1] and not 1=2 and ".repeat(8) + "[1=1]");
         c.goodRule("serve 1 if " + "[".repeat(9) + "[1=1] and [1=1] and not 1=1" + "]".repeat(9));
@@ -386,6 +404,13 @@ final class RuleSentences {
         c.badRule("serve ^.", 0);
         c.badRule("serve 1^.", 0);
         c.badRule("serve 1 if [1=1^;serve 1]", 0);
+    }
+
+    @Sentence(promise = 5, text = "or the end (behind the last byte)")
+    static void p05WhatWasCutOffIsNoSign(Case c) {
+        c.put("serve 1 if 1 <= 2");
+        c.book.end(14);
+        c.due("the end is behind the sign <", c.book.rule(), -2 - (1 + 8 * 14));
     }
 
     @Sentence(promise = 5, text = "Of one place the least.")

@@ -239,6 +239,17 @@ final class StandSentences {
         c.due("to 59", c.book.runs(0, 0, 1), 59);
     }
 
+    @Sentence(promise = 10, text = "else of that RUN (from 0, the least first) what 0: its first, 1: its last number")
+    static void p10BehindARunOf0(Case c) {
+        c.begin("papers 9;station 0 8;spoiled 1;spoiled 4");
+        int[][] runs = {{0, 0}, {2, 3}, {5, 8}};
+        c.due("three", c.book.runs(0, NONE, 0), 3);
+        for (int run = 0; run < 3; run++) {
+            c.due("first of " + run, c.book.runs(0, run, 0), runs[run][0]);
+            c.due("last of " + run, c.book.runs(0, run, 1), runs[run][1]);
+        }
+    }
+
     @Sentence(promise = 10, text = "A RUN of a STOCK: numbers one behind the other, as many as there are on end.")
     static void p10RunsGrowAndPart(Case c) {
         c.begin("papers 20;station 0 4;station 5 9;station 10 19");

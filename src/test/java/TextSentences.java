@@ -188,6 +188,20 @@ final class TextSentences {
         c.due("no second station", c.book.station(1, 0), NONE);
     }
 
+    @Sentence(promise = 4, text = "The TAPE, which is empty then, is the ELECTION in place of the one there was")
+    static void p04WhatAnotherTextToldIsGone(Case c) {
+        c.begin("papers 9;station 0 8;voters 0 7;spoiled 2;spoiled 8");
+        c.goodElection("papers 9;station 0 8", 1);
+        c.due("spoiled by the other text", c.book.paper(2, 1), 0);
+        c.due("stock", c.book.station(0, 0), 9);
+        c.due("spoiled", c.book.station(0, 2), 0);
+        c.due("wait", c.book.station(0, 3), 0);
+        c.badElection("papers 9;station 0 3;spoiled 1;voters 0 5;station 5 8;^x", 0);
+        c.goodElection("papers 9;station 3 8", 1);
+        c.goodElection("papers 9;station 0 8", 1);
+        c.due("numbers of a text with a fault are free", c.book.station(0, 0), 9);
+    }
+
     @Sentence(promise = 4, text = "(no NOTES, nothing to be UNDONE; the RULE IN FORCE, x, IMAGES stay)")
     static void p04NoNotes(Case c) {
         c.begin(Case.THREE);
@@ -457,6 +471,10 @@ final class TextSentences {
         c.badElection("^paper 9", 0);
         c.badElection("^paperss 9", 0);
         c.badElection("^Papers 9", 0);
+        c.badElection("^papersz 9", 0);
+        c.badElection("^papersa 9", 0);
+        c.badElection("papers^{9", 0);
+        c.badElection("papers^`9", 0);
         c.badElection("^7", 0);
         c.badElection("^;", 0);
         c.badElection("papers ^x", 0);
