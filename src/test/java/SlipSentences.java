@@ -233,6 +233,22 @@ final class SlipSentences {
         c.due("0 is free", b.free(), 1);
     }
 
+    @Sentence(promise = 24, text = "one TOLD number of a STATION that is not RECOUNTED")
+    static void p24OfTwoRecountedOnesNeitherSlips(Case c) {
+        // one went from 0 to 2 (or back) behind the recounts: one of moved, and then a one at 2
+        BallotBook b = c.begin("papers 30;station 0 9;station 10 19;station 20 29");
+        b.recount(0);
+        b.recount(1);
+        b.lend(0, 2, 1);
+        c.tellAll(2, 11, 0, 0);
+        dueSlips(c, 2, 0, 1, 0, 0, 0);
+        b.lend(2, 0, 1);
+        b.lend(2, 0, 1);
+        b.tell(2, 0, 9);
+        dueSlips(c, 2, 0, 1, 0, 0, 0);
+        c.due("2 must", b.must(), 4);
+    }
+
     @Sentence(promise = 24, text = "one TOLD number of a STATION that is not RECOUNTED is 1 more or less than it should be; it is 10 more "
             + "or less")
     static void p24TensAreNotOfARecountedOne(Case c) {
