@@ -1056,35 +1056,48 @@ public final class BallotBook {
             return true;
         }
 
+        /** Each "not" lies one deeper than what it stands ahead of, and turns it when that is read. */
         private boolean readFact(int depth) {
+            int deep = depth;
             tape.upcoming();
             int place = tape.at;
-            boolean opens = tape.takeSign('[');
-            boolean turns = !opens && tape.takeWord("not") != NONE;
-            if ((opens || turns) && depth >= DEPTH_MOST) {
-                return tape.blame(place, FAULT_DEEP);
-            }
-            if (opens) {
-                return readTest(depth + 1) && (tape.takeSign(']') || tape.blame(tape.at, FAULT_SIGN));
-            }
-            int op = OP_NOT;
-            if (turns) {
-                if (!readFact(depth + 1)) {
-                    return false;
+            while (deep <= DEPTH_MOST && tape.takeWord("not") != NONE) {
+                if (deep == DEPTH_MOST) {
+                    return tape.blame(place, FAULT_DEEP);
                 }
-            } else {
-                if (!readSum()) {
-                    return false;
-                }
+                deep++;
                 tape.upcoming();
                 place = tape.at;
-                op = takeComparison();
-                if (op == NONE) {
-                    return tape.blame(place, FAULT_SIGN);
-                }
-                if (!countPart(place) || !readSum()) {
-                    return false;
-                }
+            }
+            boolean opens = tape.takeSign('[');
+            if (opens && deep >= DEPTH_MOST) {
+                return tape.blame(place, FAULT_DEEP);
+            }
+            if (!(opens ? readBrackets(deep + 1) : readComparison())) {
+                return false;
+            }
+            for (int i = depth; i < deep; i++) {
+                addCode(OP_NOT, 0);
+            }
+            return true;
+        }
+
+        private boolean readBrackets(int depth) {
+            return readTest(depth) && (tape.takeSign(']') || tape.blame(tape.at, FAULT_SIGN));
+        }
+
+        private boolean readComparison() {
+            if (!readSum()) {
+                return false;
+            }
+            tape.upcoming();
+            int place = tape.at;
+            int op = takeComparison();
+            if (op == NONE) {
+                return tape.blame(place, FAULT_SIGN);
+            }
+            if (!countPart(place) || !readSum()) {
+                return false;
             }
             addCode(op, 0);
             return true;
@@ -1753,29 +1766,30 @@ public final class BallotBook {
             fewest = NONE;
             // a way without tens is found at once and bounds the search with them
             reach = 0;
-            descend(0, 0, 0, 0, 0, 0);
+            descend(this, 0, 0, 0, 0, 0, 0);
             reach = TENS_MOST;
-            descend(0, 0, 0, 0, 0, 0);
+            descend(this, 0, 0, 0, 0, 0, 0);
             return fewest != NONE;
         }
 
         /** Tens from below up, so that of ways that are as good the first one is found first. */
-        private void descend(int station, int used, int above, int below, int ownAbove, int ownBelow) {
-            if (used + Math.max(above, below) > limit) {
+        private static void descend(SlipSearch search, int station, int used, int above, int below,
+                int ownAbove, int ownBelow) {
+            if (used + Math.max(above, below) > search.limit) {
                 return;
             }
-            if (station >= stations) {
-                weigh(used, above, below, ownAbove, ownBelow);
+            if (station >= search.stations) {
+                search.weigh(used, above, below, ownAbove, ownBelow);
                 return;
             }
-            boolean own = (fixed >> station & 1) == 0;
-            int most = own ? reach : 0;
+            boolean own = (search.fixed >> station & 1) == 0;
+            int most = own ? search.reach : 0;
             for (int ten = -most; ten <= most; ten++) {
-                int gap = gaps[station] - 10 * ten;
+                int gap = search.gaps[station] - 10 * ten;
                 int up = Math.max(gap, 0);
                 int down = Math.max(-gap, 0);
-                tens[station] = ten;
-                descend(station + 1, used + Math.abs(ten), above + up, below + down,
+                search.tens[station] = ten;
+                descend(search, station + 1, used + Math.abs(ten), above + up, below + down,
                         own ? ownAbove + up : ownAbove, own ? ownBelow + down : ownBelow);
             }
         }
